@@ -1265,8 +1265,8 @@ public final class PuzzleWed {
         int slackOf(Land land, int i, int j) {
             int least = NONE;
             for (int p = 0; p < PEOPLE; p++) {
-                for (int q = 0; q < PEOPLE; q++) {
-                    if (land.holder[p] == i && land.holder[q] == j) {
+                for (int q = 0; land.holder[p] == i && q < PEOPLE; q++) {
+                    if (land.holder[q] == j) {
                         int left = gap(land.height[p], land.height[q]) - land.wear[p] - land.wear[q];
                         int slack = Math.max(0, left);
                         least = least < 0 ? slack : Math.min(least, slack);
@@ -1719,6 +1719,8 @@ public final class PuzzleWed {
         private final long[] cost;
         private final int[] gapOne;
         private final int[] gapOther;
+        private int low;
+        private int high;
 
         Sander() {
             made = new int[HEIGHTS];
@@ -1740,12 +1742,9 @@ public final class PuzzleWed {
             long digit = 1;
             for (int h = HEIGHTS - 1; h >= 0; h--) {
                 int facing = HEIGHTS - 1 - h;
-                int otherHeight = other == null ? 0 : other[facing];
-                for (int v = -HIGHEST; v <= HIGHEST; v++) {
-                    int place = v + HIGHEST;
-                    cost[place] = Math.abs(v - from[h]) * CHANGE + place * digit;
-                    gapOne[place] = Math.abs(v + one[facing]);
-                    gapOther[place] = other == null ? 0 : Math.abs(v + otherHeight);
+                weigh(from[h], -one[facing], other == null ? -one[facing] : -other[facing], digit);
+                if (other == null) {
+                    Arrays.fill(gapOther, 0);
                 }
                 for (int r = topOne; r >= 0; r--) {
                     for (int s = topOther; s >= 0; s--) {
@@ -1757,10 +1756,22 @@ public final class PuzzleWed {
             read(leastOf(topOne, topOther));
         }
 
+        /** Values beyond a height and both its mates cost more and gap more: they are left out. */
+        private void weigh(int height, int mateOne, int mateOther, long digit) {
+            low = HIGHEST + Math.min(height, Math.min(mateOne, mateOther));
+            high = HIGHEST + Math.max(height, Math.max(mateOne, mateOther));
+            for (int place = 0; place < VALUES; place++) {
+                int value = place - HIGHEST;
+                cost[place] = Math.abs(value - height) * CHANGE + place * digit;
+                gapOne[place] = Math.abs(value - mateOne);
+                gapOther[place] = Math.abs(value - mateOther);
+            }
+        }
+
         /** Rooms are gone through from the greatest, so that the smaller ones are still of the height before. */
         private long bestHere(int r, int s) {
             long value = NEVER;
-            for (int place = 0; place < VALUES; place++) {
+            for (int place = Math.max(0, low); place <= high && place < VALUES; place++) {
                 long before = leastOf(r - gapOne[place], s - gapOther[place]);
                 if (before != NEVER) {
                     value = Math.min(value, before + cost[place]);
