@@ -961,7 +961,6 @@ public final class PuzzleWed {
             System.arraycopy(other.letter, 0, letter, 0, CLAUSES);
             System.arraycopy(other.worthAt, 0, worthAt, 0, CLAUSES);
             System.arraycopy(other.whenAt, 0, whenAt, 0, CLAUSES);
-            used = other.used;
             clauses = other.clauses;
         }
 
@@ -1481,7 +1480,6 @@ public final class PuzzleWed {
                     twos++;
                     slackSum += OF_ONE - bond[p][q];
                     partner[ones[p]] = others[q];
-                    partner[others[q]] = ones[p];
                 }
             }
         }
