@@ -18,6 +18,7 @@ public final class FinePointsTest {
         steamingAlike();
         firstRules();
         countsBeginAnew();
+        likingByOne();
         Bench.end("FinePointsTest");
     }
 
@@ -340,6 +341,22 @@ public final class FinePointsTest {
         due("rule 3 for the same: the lowest", rule(b, "1,2,3,4,5,6,7,8", "1,2,3,4,5,6,7,8", 11), 0);
         due("4 more is no rule", rule(b, "1*8", "5*8", 0), 0);
         due("3 more, and the other sign", rule(b, "0*8", "3*8", 0), 16);
+    }
+
+    private static void likingByOne() {
+        Bench.part("17 and 18, a liking of 1");
+        Bench b = Bench.people(2, 2);
+        b.law("l1(1=1)");
+        due("1 is enough to ask and to keep", b.x.stable(20), 2);
+        due("1 is more than nobody", b.x.unrest(0), 4);
+        b.x.weds(0, 2);
+        due("1 is not more than 1", b.x.unrest(0), 1);
+        b.law("l1(p=0)");
+        due("0 is not enough to keep", b.x.stable(20), 0);
+        due("0 is not more than nobody", b.x.unrest(0), 0);
+        b.law("l1(p=1)");
+        due("0 is not enough to ask", b.x.stable(20), 0);
+        due("0 is not more than nobody", b.x.unrest(0), 0);
     }
 
     private static void countsBeginAnew() {
