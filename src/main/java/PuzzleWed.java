@@ -238,8 +238,9 @@ public final class PuzzleWed {
         if (!land.isTold(i) || !land.isTold(j) || i == j || what < 0 || what > 2) {
             return NONE;
         }
-        if (what == 0) {
-            return judge.slackOf(land, i, j);
+        int slack = judge.slackOf(land, i, j);
+        if (slack < 0 || what == 0) {
+            return slack;
         }
         if (what == 1) {
             return judge.fit(land, i, j) ? 1 : 0;
@@ -294,7 +295,7 @@ public final class PuzzleWed {
     }
 
     public int most(int what) {
-        boolean ofPerson = land.isTold(what) && land.side[what] == 0;
+        boolean ofPerson = land.isAlive(what) && land.side[what] == 0;
         if (what != 20 && what != 21 && !ofPerson) {
             return NONE;
         }

@@ -116,8 +116,8 @@ public final class FinePointsTest {
         due("s is 0 in f", b.x.slack(0, 1, 1), 1);
         due("s is the slack in l", b.x.slack(0, 1, 2), 9);
         b.x.dies(2);
-        b.law("l9(i=2&x=0&y=1&s=0)");
-        due("s is 0 where one holds none", b.x.slack(2, 0, 2), 9);
+        b.law("l9(i=2&x=0&y=1&s=0);f9(1=1)");
+        for (int what = 0; what < 3; what++) due("a law gives no slack to one that holds none", b.x.slack(2, 0, what), -1);
     }
 
     private static void longPartsOfTheLaw() {

@@ -591,7 +591,8 @@ final class Oracle {
 
     int slack(int i, int j, int what) {
         if (told(now, i) == null || told(now, j) == null || i == j || what < 0 || what > 2) return -1;
-        if (what == 0) return peopleSlack(now, i, j) == null ? -1 : peopleSlack(now, i, j);
+        if (pieces(now, i).isEmpty() || pieces(now, j).isEmpty()) return -1;
+        if (what == 0) return peopleSlack(now, i, j);
         return what == 1 ? fits(now, i, j) ? 1 : 0 : likes(now, i, j);
     }
 
@@ -647,7 +648,7 @@ final class Oracle {
     }
 
     int most(int what) {
-        boolean person = told(now, what) != null && now.people[what].side == 0;
+        boolean person = alive(now, what) && now.people[what].side == 0;
         if (!person && what != 20 && what != 21) return -1;
         List<Integer> ones = living(0), others = living(1);
         int[][] cost = new int[12][12];
@@ -660,7 +661,7 @@ final class Oracle {
         allRows(ones, others, cost, 0, new int[12], 0, 0, 0);
         if (what == 20) return bestCount;
         if (what == 21) return bestSlack;
-        return !alive(now, what) || bestRow[what] == 12 ? -2 : bestRow[what];
+        return bestRow[what] == 12 ? -2 : bestRow[what];
     }
 
     int stable(int what) {

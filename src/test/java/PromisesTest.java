@@ -514,8 +514,17 @@ public final class PromisesTest {
         b.x.dies(2);
         b.front(3, 0);
         due("the least over all", b.x.slack(0, 3, 0), 30);
-        due("one holds none", b.x.slack(2, 3, 0), -1);
-        due("the dead FIT nobody", b.x.slack(2, 3, 1), 0);
+        for (int what = 0; what < 3; what++) {
+            due("the first one holds none, whatever is asked", b.x.slack(2, 3, what), -1);
+            due("the second one holds none, whatever is asked", b.x.slack(3, 2, what), -1);
+        }
+        due("the widow holds both, does not FIT", b.x.slack(0, 3, 1), 0);
+        due("and likes", b.x.slack(0, 3, 2), 99);
+        b.x.dies(0);
+        for (int what = 0; what < 3; what++) {
+            due("left to nobody", b.x.slack(3, 0, what), -1);
+            due("both hold none", b.x.slack(0, 2, what), -1);
+        }
     }
 
     private static void p15() {
@@ -567,7 +576,8 @@ public final class PromisesTest {
         due("the least SLACK", b.x.most(21), 0);
         due("the least SLACK", b.x.most(0), 4);
         due("the least SLACK", b.x.most(1), 5);
-        due("a dead one gets nobody", b.x.most(2), -2);
+        due("a dead one is no such one", b.x.most(2), -1);
+        due("that live", b.x.most(20), 2);
         b.x.weds(0, 3);
         due("not looking at who is WED", b.x.most(0), 4);
         b.x.dies(4);
@@ -584,6 +594,14 @@ public final class PromisesTest {
         due("nobody", d.x.most(10), -2);
         due("twelve of one", Bench.people(0, 12).x.most(20), 0);
         due("twelve of one", Bench.people(12, 0).x.most(11), -2);
+        Bench e = Bench.people(1, 1);
+        e.x.weds(0, 1);
+        due("WED, that lives", e.x.most(0), 1);
+        e.x.dies(0);
+        due("who died WED is no such one", e.x.most(0), -1);
+        due("nor is a widow of SIDE 1", e.x.most(1), -1);
+        due("how many", e.x.most(20), 0);
+        due("SLACK", e.x.most(21), 0);
     }
 
     private static void p17() {
