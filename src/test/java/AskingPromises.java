@@ -532,6 +532,7 @@ final class AskingPromises extends Sentences {
             + "10 + t who is in TOWN t (bits of those that live).");
         Bench b = new Bench();
         for (int i = 0; i < 12; i++) b.x.person(i, i & 1, i % 6);
+        for (int t = 0; t < 6; t++) due("all live", b.x.count(10 + t), 65 << t);
         b.x.dies(11);
         b.x.dies(0);
         b.x.weds(2, 5);

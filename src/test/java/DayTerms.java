@@ -3,6 +3,7 @@ final class DayTerms extends Sentences {
     static void all() {
         journeyTexts();
         stops();
+        everySign();
         journeyFaults();
         seventeenthStop();
         theWay();
@@ -44,6 +45,26 @@ final class DayTerms extends Sentences {
             b.x.days(1);
             due("so many DAYS there", b.x.personIs(0, 1), town);
         }
+    }
+
+    /** Every sign where a STOP begins, behind it, behind its *. */
+    private static void everySign() {
+        says("STOPS (16 at most) with a , between two: a TOWN (a digit 0 to 5), perhaps with * and a digit 2 to 9: so many DAYS there.");
+        for (char c = 0; c < 256; c++) {
+            Bench b = Bench.people(1, 0);
+            boolean town = c >= '0' && c <= '5';
+            boolean above = c >= '6' && c <= '9';
+            due("TOWN " + (int) c, b.journey(0, "" + c), town ? 1 : above ? -3000 : -1000);
+            due("a second TOWN " + (int) c, b.journey(0, "5*3," + c), town ? 4 : above ? -3004 : -1004);
+            due("between two: " + (int) c, b.journey(0, "1" + c + "2"), c == ',' ? 2 : c == '*' ? 2 : -1001);
+            due("1* and " + (int) c, b.journey(0, "1*" + c), c >= '2' && c <= '9' ? c - '0' : -1002);
+            due("1*2 and " + (int) c, b.journey(0, "1*2" + c + "0"), c == ',' ? 3 : -1003);
+        }
+        Bench all = Bench.people(1, 0);
+        all.feed("0,1,2,3,4,5,0,1,2,3,");
+        due("all 20 bytes of the tape", all.x.journey(0, 20), -1020);
+        all.feed("0,1,2,3,4,5,0,1,2,3,").feed("0*9,1*9,2*9,3*9,4*9,");
+        due("all 40 bytes of the tape", all.x.journey(0, 40), -1040);
     }
 
     private static void journeyFaults() {
@@ -135,6 +156,14 @@ final class DayTerms extends Sentences {
             due("tries", d.x.tried(1, 1), day < 3 ? 2 : 0);
             d.x.days(1);
         }
+        Bench zero = new Bench();
+        zero.x.person(0, 1, 2);
+        zero.x.person(11, 0, 2);
+        due("the lowest one is 0", zero.x.tried(1, 21), 0);
+        zero.front(0, 1);
+        zero.x.days(1);
+        due("0 is tried", zero.x.personIs(11, 8), 1);
+        due("0 is tried", zero.x.personIs(0, 8), 1 << 11);
         due("all tries", Bench.people(0, 5).x.tried(60, 1), 0);
         due("all tries", Bench.people(5, 0).x.tried(60, 1), 0);
     }

@@ -5,6 +5,7 @@ final class LandTerms extends Sentences {
         creaksAndDeath();
         pieces();
         edgeTexts();
+        everySign();
         edgeFaults();
         slackOfPieces();
         slackOfPeople();
@@ -117,6 +118,25 @@ final class LandTerms extends Sentences {
             "0*8", 0, "1*8", 8, "-9*8", 72, "9*8", 72, "1*2,2*6", 14, "1,2*7", 15, "1*7,2", 9, "1*2,2*2,3*2,-4*2", 20);
         int[] twice = {1, 1, 2, 2, 3, 3, -4, -4};
         for (int h = 0; h < 8; h++) due("so many times", b.x.piece(0, h), twice[h]);
+    }
+
+    /** Every sign where a height begins, behind its -, behind a height, behind a *. */
+    private static void everySign() {
+        says("8 heights with a , between two: a digit, or - and a digit 1 to 9;");
+        for (char c = 0; c < 256; c++) {
+            Bench b = new Bench();
+            boolean digit = c >= '0' && c <= '9';
+            due("begins with " + (int) c, b.edge(0, c + ",0*7"), digit ? c - '0' : c == '-' ? -1001 : -1000);
+            due("- and " + (int) c, b.edge(0, "-" + c + ",0*7"), digit && c != '0' ? c - '0' : -1001);
+            due("begins with " + (int) c + " behind a ,", b.edge(0, "0*7," + c), digit ? c - '0' : c == '-' ? -1005 : -1004);
+            due("between two: " + (int) c, b.edge(0, "1" + c + "0*7"), c == ',' ? 1 : c == '*' ? -1002 : -1001);
+        }
+        says("a height may have * and a digit 2 to 8 behind it: so many times.");
+        for (char c = 0; c < 256; c++) {
+            int times = c >= '2' && c <= '8' ? c - '0' : 0;
+            due("1* and " + (int) c, new Bench().edge(0, "1*" + c), times == 8 ? 8 : times > 0 ? -1003 : -1002);
+            due("1*2 and " + (int) c, new Bench().edge(0, "1*2" + c + "1*6"), c == ',' ? 8 : -1003);
+        }
     }
 
     private static void edgeFaults() {

@@ -12,6 +12,7 @@ final class LawTerms extends Sentences {
         partsAndTests();
         reckoning();
         factors();
+        everySign();
         whoIsFirst();
         otherLetters();
         thirtyTwoBits();
@@ -258,6 +259,22 @@ final class LawTerms extends Sentences {
         laws(b, "l1(ij=1)", -1004, "l1(1i=1)", -1004, "l1(i1=1)", -1004, "l1(I=1)", -1003);
     }
 
+    /** Every sign where an E begins, behind a number, between the two E of a TEST, behind a TEST. */
+    private static void everySign() {
+        says("a FACTOR: [E], a number of one to five digits, or a letter:");
+        for (char c = 0; c < 256; c++) {
+            Bench b = new Bench();
+            boolean digit = c >= '0' && c <= '9';
+            boolean factor = digit || "ijsxyuvdapq".indexOf(c) >= 0;
+            due("an E begins with " + (int) c, b.law("l" + c + "(1=1)"), factor ? 1 : c == '[' ? -1002 : -1001);
+            due("a TEST begins with " + (int) c, b.law("l1(" + c + "=1)"), factor ? 1 : c == '[' || c == '!' || c == '(' ? -1004 : -1003);
+            due("behind a * stands " + (int) c, b.law("l1(1*" + c + "=1)"), factor ? 1 : c == '[' ? -1006 : -1005);
+            due("behind a number stands " + (int) c, b.law("l1(1" + c + "1=1)"), digit || "+-*/%".indexOf(c) >= 0 ? 1 : "<>=".indexOf(c) >= 0 ? -1006 : -1004);
+            due("behind a TEST stands " + (int) c, b.law("l1(1=1" + c + "1=1)"), "&|".indexOf(c) >= 0 ? 1 : c == ')' ? -1007
+                : digit || "+-*/%".indexOf(c) >= 0 ? -1008 : -1006);
+        }
+    }
+
     private static void whoIsFirst() {
         says("i, j the two PEOPLE (of the WED the lower one first; in f, and in w of two that are not WED, the one of SIDE 0 first, "
             + "of one SIDE the lower one; in l the one that likes first),");
@@ -365,6 +382,9 @@ final class LawTerms extends Sentences {
         likes(b, "l9+5%0(1=1)", 0);
         likes(b, "l9+5*[3/d](1=1)", 0);
         likes(b, "l5(1/0=0);l9(1=1)", 9);
+        likes(b, "l7(1=1);l5/0(1/0=0)", 7);
+        likes(b, "l5/0(1=2);l7(1=1)", 7);
+        likes(b, "f5/0(1=1);l7(1=1);w5/0(1=1)", 7);
         b.front(0, 1);
         b.law("f9/0(1=1);w9/0(1=1)");
         due("an f is 0", b.x.slack(0, 1, 1), 0);

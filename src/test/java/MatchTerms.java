@@ -132,6 +132,54 @@ final class MatchTerms extends Sentences {
         due("l below 0 is 0", b.x.stable(0), -2);
         b.law("l99(i=0&j=1);l200(1=1)");
         due("l above 99 is 99: the lowest", b.x.stable(0), 1);
+        askedFromZero();
+    }
+
+    /** Of side 1 are 0 to 2 here, so that the lowest one is 0. */
+    private static void askedFromZero() {
+        Bench b = new Bench();
+        for (int i = 0; i < 6; i++) b.x.person(i, i < 3 ? 1 : 0, 0);
+        b.law("l9(i=3&j=0);l8(i=3);l9(i=4&j=2);l8(i=4&j=0);l1(1=1)");
+        int[] gets = {3, 5, 4, 0, 2, 1};
+        for (int i = 0; i < 6; i++) due("the best liked is 0", b.x.stable(i), gets[i]);
+        b.law("l9(i=3&j=2);l8(i=3);l1(1=1)");
+        int[] next = {4, 5, 3, 2, 0, 1};
+        for (int i = 0; i < 6; i++) due("0 is less liked", b.x.stable(i), next[i]);
+        b.law("l8(i>2);l1(1=1)");
+        int[] same = {3, 4, 5, 0, 1, 2};
+        for (int i = 0; i < 6; i++) due("of like ones the lowest", b.x.stable(i), same[i]);
+        b.front(0, 1);
+        int[] two = {-2, 3, 4, 1, 2, -2};
+        for (int i = 0; i < 6; i++) due("0 FITS nobody", b.x.stable(i), two[i]);
+    }
+
+    /** One of a lower number asks later: 0 is turned away by 2, then asks 3, who has 1. */
+    private static void askedLater() {
+        String way = "l9(i=0&j=2);l8(i=0&j=3);l9(i=1&j=3);l1(i=2&j=0);";
+        Bench b = new Bench();
+        b.x.person(0, 0, 0);
+        b.x.person(1, 0, 0);
+        b.x.person(4, 0, 0);
+        b.x.person(2, 1, 0);
+        b.x.person(3, 1, 0);
+        way = way + "l9(i=4&j=2);l5(i=2&j=4);";
+        b.law(way + "l3(i=3);l1(1=1)");
+        int[] like = {3, -2, 4, 0, 2};
+        for (int i = 0; i < 5; i++) due("of like ones the lowest, though it asks later", b.x.stable(i), like[i]);
+        b.law(way + "l2(i=3&j=0);l3(i=3);l1(1=1)");
+        int[] less = {-2, 3, 4, 1, 2};
+        for (int i = 0; i < 5; i++) due("less liked, though lower", b.x.stable(i), less[i]);
+        b.law(way + "l4(i=3&j=0);l3(i=3);l1(1=1)");
+        for (int i = 0; i < 5; i++) due("better liked", b.x.stable(i), like[i]);
+    }
+
+    /** All of six and six ask as often as six and six can: 31 times. */
+    private static void longestAsking() {
+        Bench b = Bench.people(6, 6);
+        b.law("l1(p=0&j=11);l10-[i+j+4]%5(p=0);l10-[i+j]%5(1=1)");
+        due("all get one", b.x.stable(20), 6);
+        int[] gets = {10, 9, 8, 7, 6, 11, 4, 3, 2, 1, 0, 5};
+        for (int i = 0; i < 12; i++) due("31 askings", b.x.stable(i), gets[i]);
     }
 
     private static void keepers() {
@@ -151,6 +199,8 @@ final class MatchTerms extends Sentences {
         b.law("l9(p=0&j=3);l0(p=0);l0(i=3&j=0);l1(1=1)");
         int[] one = {-2, 3, -2, 1, -2};
         for (int i = 0; i < 5; i++) due("l 0 of one, l 1 of another", b.x.stable(i), one[i]);
+        askedLater();
+        longestAsking();
         Bench c = Bench.people(3, 3);
         c.law("l9(i=0&j=3|i=1&j=3|i=2&j=4|i=3&j=1|i=4&j=0|i=5);l5(i=0&j=4|i=1&j=4|i=2&j=3);l2(1=1)");
         int[] chain = {4, 3, 5, 1, 0, 2};
@@ -284,6 +334,16 @@ final class MatchTerms extends Sentences {
         for (int p = 0; p < 6; p++) due("six", searched(6, p, six), best[p]);
         due("0 + 1 + 2 + 3 + 4 + 5 through 6", searched(6, 20, six), 5);
         due("0 + 1 + 2 + 3 + 4 + 5 through 6", searched(6, 21, six), 2);
+        for (int n = 2; n <= 6; n++) {
+            int[] here = plain(n);
+            java.util.Arrays.fill(here, 1, n, 0);
+            for (int p = 0; p < n; p++) due("all of it in TOWN 0: the least order", searched(n, p, here), p);
+            due("all of it in TOWN 0", searched(n, 20, here), 0);
+            due("all of it in TOWN 0", searched(n, 21, here), 1);
+            int[] back = plain(n);
+            for (int t = 1; t < n; t++) back[t] = 10 * t;
+            for (int p = 1; p < n; p++) due("the last of all orders", searched(n, p, back), n - p);
+        }
         due("the largest sum", searched(6, 20, largest()), 50);
         due("the largest sum", searched(6, 21, largest()), 1);
     }
